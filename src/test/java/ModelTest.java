@@ -7,12 +7,15 @@ import java.util.Random;
 public final class ModelTest {
     private static final int RUNS = 240;
     private static final int CALLS = 512;
+    private static final int MOST_UNDOS = 8;
 
     private final Due due;
     private final Random chance;
     private final FlowMeters x = new FlowMeters();
     private final Deque<Model> past = new ArrayDeque<>();
     private Model m = new Model();
+    /** How many calls the object has had: its 512th is the last one that must be right. */
+    private int calls = 0;
 
     private ModelTest(Due due, long seed) {
         this.due = due;
@@ -27,13 +30,23 @@ public final class ModelTest {
         due.end();
     }
 
+    /** Beside each call, so that it counts them all. */
+    private void check(String call, long got, long want) {
+        calls++;
+        due.is(call, got, want);
+    }
+
+    private void check(String call, boolean got, boolean want) {
+        check(call, got ? 1 : 0, want ? 1 : 0);
+    }
+
     private void go(int run) {
-        int calls = 0;
         if (run % 2 == 0) {
-            calls = build();
+            build();
         }
-        for (; calls < CALLS; calls++) {
-            if (chance.nextInt(run % 2 == 0 ? 12 : 4) == 0) {
+        // A round may make several calls of undo(), so the last ones only ask.
+        while (calls < CALLS) {
+            if (calls < CALLS - MOST_UNDOS && chance.nextInt(run % 2 == 0 ? 12 : 4) == 0) {
                 alter();
             } else {
                 ask();
@@ -42,8 +55,7 @@ public final class ModelTest {
     }
 
     /** Works that are full, with meters that are far off: the numbers get large. */
-    private int build() {
-        int calls = 1;
+    private void build() {
         int k = 2 + chance.nextInt(5);
         callWorks(k);
         int n = 4 + chance.nextInt(7);
@@ -52,14 +64,11 @@ public final class ModelTest {
             callFlow(a, (a + 1 + chance.nextInt(k - 1)) % k);
             callMiss(f, chance.nextInt(3) == 0 ? 4 : 1 + chance.nextInt(4));
             callPrice(f, chance.nextInt(3) == 0 ? chance.nextInt(4) : chance.nextInt(100));
-            calls += 3;
             if (chance.nextInt(5) != 0) {
                 callRead(f, chance.nextInt(3) == 0 ? (chance.nextBoolean() ? 2000 : -2000)
                         : chance.nextInt(4001) - 2000);
-                calls++;
             }
         }
-        return calls;
     }
 
     private int anyFlow() {
@@ -118,7 +127,7 @@ public final class ModelTest {
                 callHour(chance.nextInt(8) == 0 ? wild() : chance.nextInt(17));
                 break;
             default:
-                for (int n = chance.nextInt(chance.nextInt(4) == 0 ? 8 : 3); n >= 0; n--) {
+                for (int n = chance.nextInt(chance.nextInt(4) == 0 ? MOST_UNDOS : 3); n >= 0; n--) {
                     callUndo();
                 }
         }
@@ -133,7 +142,7 @@ public final class ModelTest {
 
     private void callWorks(int k) {
         boolean can = k >= 2 && k <= 6;
-        due.is("works(" + k + ")", x.works(k), can);
+        check("works(" + k + ")", x.works(k), can);
         if (can) {
             keep();
             m = new Model();
@@ -143,7 +152,7 @@ public final class ModelTest {
 
     private void callFlow(int a, int b) {
         boolean can = a >= 0 && a < m.knots && b >= 0 && b < m.knots && a != b && m.flows.size() < 10;
-        due.is("flow(" + a + ", " + b + ")", x.flow(a, b), can ? m.flows.size() : -1);
+        check("flow(" + a + ", " + b + ")", x.flow(a, b), can ? m.flows.size() : -1);
         if (can) {
             keep();
             Model.Flow f = new Model.Flow();
@@ -155,7 +164,7 @@ public final class ModelTest {
 
     private void callRead(int f, int v) {
         boolean can = m.isFlow(f) && v >= -2000 && v <= 2000;
-        due.is("read(" + f + ", " + v + ")", x.read(f, v), can);
+        check("read(" + f + ", " + v + ")", x.read(f, v), can);
         if (can) {
             keep();
             m.flows.get(f).read = true;
@@ -165,7 +174,7 @@ public final class ModelTest {
 
     private void callUnread(int f) {
         boolean can = m.isFlow(f) && m.isRead(f);
-        due.is("unread(" + f + ")", x.unread(f), can);
+        check("unread(" + f + ")", x.unread(f), can);
         if (can) {
             keep();
             m = m.without(f);
@@ -174,7 +183,7 @@ public final class ModelTest {
 
     private void callMiss(int f, int v) {
         boolean can = m.isFlow(f) && v >= 1 && v <= 4;
-        due.is("miss(" + f + ", " + v + ")", x.miss(f, v), can);
+        check("miss(" + f + ", " + v + ")", x.miss(f, v), can);
         if (can) {
             keep();
             m.flows.get(f).miss = v;
@@ -183,7 +192,7 @@ public final class ModelTest {
 
     private void callPrice(int f, int v) {
         boolean can = m.isFlow(f) && v >= 0 && v <= 99;
-        due.is("price(" + f + ", " + v + ")", x.price(f, v), can);
+        check("price(" + f + ", " + v + ")", x.price(f, v), can);
         if (can) {
             keep();
             m.flows.get(f).price = v;
@@ -200,7 +209,7 @@ public final class ModelTest {
             words[i / 4] = words[i / 4] << 8 | some & 255;
         }
         boolean can = m.isFlow(f) && kind >= 0 && kind <= 3 && n >= 0 && n <= 16;
-        due.is("sheet(" + f + ", " + kind + ", " + n + ", ..)",
+        check("sheet(" + f + ", " + kind + ", " + n + ", ..)",
                 x.sheet(f, kind, n, words[0], words[1], words[2], words[3]), can ? n : -1);
         if (can) {
             keep();
@@ -219,7 +228,7 @@ public final class ModelTest {
 
     private void callLose(int f) {
         boolean can = m.isFlow(f) && m.flows.get(f).kind >= 0;
-        due.is("lose(" + f + ")", x.lose(f), can);
+        check("lose(" + f + ")", x.lose(f), can);
         if (can) {
             keep();
             m.flows.get(f).kind = -1;
@@ -239,12 +248,12 @@ public final class ModelTest {
                 want += f.read ? 1 : 0;
             }
         }
-        due.is("hour(" + h + ")", x.hour(h), want);
+        check("hour(" + h + ")", x.hour(h), want);
     }
 
     private void callUndo() {
         boolean can = !past.isEmpty();
-        due.is("undo()", x.undo(), can);
+        check("undo()", x.undo(), can);
         if (can) {
             m = past.removeLast();
         }
@@ -266,35 +275,35 @@ public final class ModelTest {
                 askHeap(anyKnot());
                 break;
             case 3:
-                due.is("seen(" + f + ")", x.seen(f), is ? m.seen(f) ? 1 : 0 : -1);
+                check("seen(" + f + ")", x.seen(f), is ? m.seen(f) ? 1 : 0 : -1);
                 break;
             case 4:
             case 5:
-                due.is("value(" + f + ", " + what + ")", x.value(f, what),
+                check("value(" + f + ", " + what + ")", x.value(f, what),
                         is && part && m.seen(f) ? m.value(f).tell(what) : -1);
                 break;
             case 6:
-                due.is("change(" + f + ", " + what + ")", x.change(f, what),
+                check("change(" + f + ", " + what + ")", x.change(f, what),
                         is && part && m.isRead(f) ? m.change(f).tell(what) : -1);
                 break;
             case 7:
                 askForce(anyKnot(), what);
                 break;
             case 8:
-                due.is("test(" + what + ")", x.test(what), part ? m.test().tell(what) : -1);
+                check("test(" + what + ")", x.test(what), part ? m.test().tell(what) : -1);
                 break;
             case 9:
                 askRound(f, chance.nextInt(10) == 0 ? wild() : chance.nextInt(7));
                 break;
             case 10:
-                due.is("spare(" + f + ")", x.spare(f), is ? m.spare(f) ? 1 : 0 : -1);
+                check("spare(" + f + ")", x.spare(f), is ? m.spare(f) ? 1 : 0 : -1);
                 break;
             case 11:
-                due.is("fall(" + f + ", " + what + ")", x.fall(f, what),
+                check("fall(" + f + ", " + what + ")", x.fall(f, what),
                         is && part && m.spare(f) ? m.fall(f).tell(what) : -1);
                 break;
             case 12:
-                due.is("lie(" + f + ", " + what + ")", x.lie(f, what),
+                check("lie(" + f + ", " + what + ")", x.lie(f, what),
                         is && part && m.spare(f) ? m.lie(f).tell(what) : -1);
                 break;
             case 13:
@@ -309,7 +318,7 @@ public final class ModelTest {
     }
 
     private void askLook(int what) {
-        due.is("look(" + what + ")", x.look(what), m.look(what));
+        check("look(" + what + ")", x.look(what), m.look(what));
     }
 
     private void askOf(int f, int what) {
@@ -319,35 +328,35 @@ public final class ModelTest {
             want = new int[] {flow.from, flow.to, flow.read ? 1 : 0, flow.reading,
                 flow.miss, flow.price, flow.kind, flow.sheet.length}[what];
         }
-        due.is("of(" + f + ", " + what + ")", x.of(f, what), want);
+        check("of(" + f + ", " + what + ")", x.of(f, what), want);
     }
 
     private void askHeap(int k) {
-        due.is("heap(" + k + ")", x.heap(k), k >= 0 && k < m.knots ? m.heaps()[k] : -1);
+        check("heap(" + k + ")", x.heap(k), k >= 0 && k < m.knots ? m.heaps()[k] : -1);
     }
 
     private void askForce(int k, int what) {
         boolean can = k >= 0 && k < m.knots && (what == 0 || what == 1);
-        due.is("force(" + k + ", " + what + ")", x.force(k, what), can ? m.forces()[k].tell(what) : -1);
+        check("force(" + k + ", " + what + ")", x.force(k, what), can ? m.forces()[k].tell(what) : -1);
     }
 
     private void askRound(int f, int i) {
         List<Integer> round = m.isFlow(f) ? m.round(f) : null;
         boolean can = round != null && i >= 0 && i < round.size();
-        due.is("round(" + f + ", " + i + ")", x.round(f, i), can ? round.get(i) : -1);
+        check("round(" + f + ", " + i + ")", x.round(f, i), can ? round.get(i) : -1);
     }
 
     private void askRank(int i) {
         List<Integer> rank = m.rank();
-        due.is("rank(" + i + ")", x.rank(i), i >= 0 && i < rank.size() ? rank.get(i) : -1);
+        check("rank(" + i + ")", x.rank(i), i >= 0 && i < rank.size() ? rank.get(i) : -1);
     }
 
     private void askAlike(int e, int f) {
-        due.is("alike(" + e + ", " + f + ")", x.alike(e, f), m.alike(e, f));
+        check("alike(" + e + ", " + f + ")", x.alike(e, f), m.alike(e, f));
     }
 
     private void askLeast(boolean surely, int what) {
-        due.is("least(" + surely + ", " + what + ")", x.least(surely, what),
+        check("least(" + surely + ", " + what + ")", x.least(surely, what),
                 what == 0 || what == 1 ? m.least(surely, what) : -1);
     }
 }
